@@ -125,19 +125,19 @@ public final class Promise06BuildTest {
         for (int number = 0; number < 12; number++) {
             Due.taskOf(x, 1, number, 0, 1, 7);
         }
-        // All twelve tasks are needed by no one task, so one is built 39 times.
-        for (int content = 1; content <= 39; content++) {
+        for (int content = 1; content <= 40; content++) {
             x.content(7, content);
             Due.due("build(11) of content " + content, x.build(11), 1);
         }
-        for (int content = 1; content <= 38; content++) {
+        // Without a last record, only the store can spare the work.
+        x.clean(11);
+        for (int content = 1; content <= 40; content++) {
             x.content(7, content);
             Due.due("work(11) of content " + content, x.work(11), 0);
             Due.due("work(10) of content " + content, x.work(10), 1);
         }
-        x.content(7, 1);
-        Due.due("build(11) of the first content", x.build(11), 0);
-        Due.due("status(11)", x.status(11), FROM_STORE);
+        x.content(7, 41);
+        Due.due("work(11) of a new content", x.work(11), 1);
     }
 
     private static void fortyBuilds() {
