@@ -1,10 +1,14 @@
-/** Promise 1: all contents 0, no tasks, the store is empty. */
+/** Promise 1: a new object. */
 public final class Promise01NewObjectTest {
+    private static final String SENTENCE = "All contents 0, no tasks, the store is empty.";
+
     public static void main(String[] args) {
-        contentsAreZero();
-        thereAreNoTasks();
-        theStoreIsEmpty();
-        objectsShareNothing();
+        Due.says(SENTENCE, "contents", Promise01NewObjectTest::contentsAreZero);
+        Due.says(SENTENCE, "tasks", Promise01NewObjectTest::thereAreNoTasks);
+        Due.says(SENTENCE, "the first task", Promise01NewObjectTest::theFirstTaskIsZero);
+        Due.says(SENTENCE, "the store", Promise01NewObjectTest::theStoreIsEmpty);
+        Due.says(SENTENCE, "builds", Promise01NewObjectTest::fortyBuildsMayBeMade);
+        Due.says(SENTENCE, "two objects", Promise01NewObjectTest::objectsShareNothing);
         Due.end();
     }
 
@@ -30,16 +34,30 @@ public final class Promise01NewObjectTest {
         }
         Due.due("executed", x.executed(), 0);
         Due.due("stale", x.stale(), 0);
-        Due.due("the first task's number", x.task(0, 0), 0);
+    }
+
+    private static void theFirstTaskIsZero() {
+        Due.due("task(0, 0)", new BuildGraph().task(0, 0), 0);
     }
 
     private static void theStoreIsEmpty() {
         // The record of all zeros is the one that an array of zeros could hold.
         for (int kind = 0; kind < 4; kind++) {
             BuildGraph x = new BuildGraph();
-            x.task(kind, 0);
-            Due.due("build of a task of zeros", x.build(0), 1);
-            Due.due("its status", x.status(0), BuildGraph.EXECUTED);
+            for (int t = 0; t < 12; t++) {
+                x.task(kind, 0);
+                Due.due("work(" + t + ")", x.work(t), 1);
+                Due.build(x, t, 1);
+                Due.due("status(" + t + ")", x.status(t), BuildGraph.EXECUTED);
+            }
+        }
+    }
+
+    private static void fortyBuildsMayBeMade() {
+        BuildGraph x = new BuildGraph();
+        x.task(0, 0);
+        for (int build = 1; build <= 40; build++) {
+            Due.build(x, 0, build == 1 ? 1 : 0);
         }
     }
 

@@ -1,178 +1,169 @@
-/** Promise 6: build, and what the terms say of a build, the record and the store. */
+/** Promise 6: build. What the terms say of a build stands in TermsBuildTest. */
 public final class Promise06BuildTest {
-    private static final int UP_TO_DATE = BuildGraph.UP_TO_DATE;
-    private static final int FROM_STORE = BuildGraph.FROM_STORE;
-    private static final int EXECUTED = BuildGraph.EXECUTED;
+    private static final String MAKES = "Makes a build of a task.";
+    private static final String REFUSED = "BAD_TASK, nothing changes.";
+    private static final String FORTY = "Forty builds or more have been made since the store was "
+        + "last emptied: FULL, nothing changes.";
+    private static final String COUNT = "Else answers how many tasks were EXECUTED.";
 
     public static void main(String[] args) {
-        handlesTheNeededTasksAlone();
-        goesFromExecutedToUpToDateToStore();
-        sameOutputStopsTheWork();
-        howManyValuesMatters();
-        theOrderOfValuesMatters();
-        theStoreIsEachTasksOwn();
-        upToDateIsNotKeptInTheStore();
-        theStoreKeepsEveryRecord();
-        fortyBuilds();
-        wrongTasks();
+        Due.says(MAKES, "the first and the last task", Promise06BuildTest::firstAndLast);
+        Due.says(REFUSED, "too small", () -> Twins.tooSmall("build", BuildGraph::build,
+            BuildGraph.BAD_TASK));
+        Due.says(REFUSED, "too large", () -> Twins.tooLargeTask("build", BuildGraph::build,
+            BuildGraph.BAD_TASK));
+        Due.says(REFUSED, "none yet", () -> Twins.noTaskYet("build", BuildGraph::build,
+            BuildGraph.BAD_TASK));
+        Due.says(FORTY, "the fortieth and the next", Promise06BuildTest::fortyBuilds);
+        Due.says(FORTY, "of a task never built", Promise06BuildTest::fullForEveryTask);
+        Due.says(FORTY, "nothing changes", Promise06BuildTest::fullChangesNothing);
+        Due.says(FORTY, "a build that executes nothing", Promise06BuildTest::idleBuildsCount);
+        Due.says(FORTY, "a wrong build", Promise06BuildTest::wrongBuildsDoNotCount);
+        Due.says(FORTY, "work", Promise06BuildTest::workDoesNotCount);
+        Due.says(FORTY, "emptied when full", Promise06BuildTest::emptiedWhenFull);
+        Due.says(FORTY, "emptied before", Promise06BuildTest::emptiedBefore);
+        Due.says(FORTY, "a clean is no emptying", Promise06BuildTest::cleanIsNoEmptying);
+        Due.says(COUNT, "none to twelve", Promise06BuildTest::answersNoneToTwelve);
+        Due.says(COUNT, "neither up to date nor from the store", Promise06BuildTest::countsExecutedAlone);
         Due.end();
     }
 
-    private static void handlesTheNeededTasksAlone() {
-        BuildGraph x = new BuildGraph();
-        x.task(0, 1);
-        x.task(0, 2);
-        Due.taskOf(x, 0, 0, 8);
-        Due.taskOf(x, 0, 0, 10, 3);
-        Due.taskOf(x, 0, 0, 11);
-        Due.due("build(3)", x.build(3), 3);
-        int[] statuses = {EXECUTED, 0, EXECUTED, EXECUTED, 0};
-        int[] outputs = {1, 0, 1, 1, 0};
-        for (int t = 0; t < 5; t++) {
-            Due.due("status(" + t + ")", x.status(t), statuses[t]);
-            Due.due("output(" + t + ")", x.output(t), outputs[t]);
-        }
-        Due.due("build(4)", x.build(4), 1);
-        Due.due("build(1)", x.build(1), 1);
-    }
-
-    private static void goesFromExecutedToUpToDateToStore() {
-        BuildGraph x = new BuildGraph();
-        Due.taskOf(x, 0, 0, 0);
-        buildOne(x, 1, EXECUTED, 0);
-        buildOne(x, 0, UP_TO_DATE, 0);
-        x.content(0, 5);
-        buildOne(x, 1, EXECUTED, 5);
-        x.content(0, 0);
-        buildOne(x, 0, FROM_STORE, 0);
-        buildOne(x, 0, UP_TO_DATE, 0);
-        x.content(0, 5);
-        buildOne(x, 0, FROM_STORE, 5);
-    }
-
-    private static void buildOne(BuildGraph x, int executed, int status, int output) {
-        Due.due("build(0)", x.build(0), executed);
-        Due.due("status(0)", x.status(0), status);
-        Due.due("output(0)", x.output(0), output);
-    }
-
-    private static void sameOutputStopsTheWork() {
-        BuildGraph x = new BuildGraph();
-        x.content(0, 3);
-        Due.taskOf(x, 3, 0, 0);
-        Due.taskOf(x, 0, 1, 8);
-        Due.due("build(1)", x.build(1), 2);
-        x.content(0, 19);
-        Due.due("build(1) with the same low bits", x.build(1), 1);
-        Due.due("status(0)", x.status(0), EXECUTED);
-        Due.due("status(1)", x.status(1), UP_TO_DATE);
-        x.content(0, 20);
-        Due.due("build(1) with other low bits", x.build(1), 2);
-    }
-
-    private static void howManyValuesMatters() {
-        BuildGraph x = new BuildGraph();
-        x.task(0, 0);
-        for (int count = 0; count <= 3; count++) {
-            Due.due("build with " + count + " values of 0", x.build(0), 1);
-            Due.due("build again", x.build(0), 0);
-            Due.due("status", x.status(0), UP_TO_DATE);
-            x.input(0, count);
-        }
-    }
-
-    private static void theOrderOfValuesMatters() {
-        BuildGraph x = new BuildGraph();
-        Due.taskOf(x, 0, 0, 0, 1, 2);
-        int[][] orders = {{1, 2, 3}, {2, 1, 3}, {3, 2, 1}, {1, 3, 2}};
-        for (int[] order : orders) {
-            for (int source = 0; source < 3; source++) {
-                x.content(source, order[source]);
-            }
-            Due.due("build of the values in another order", x.build(0), 1);
-            Due.due("its output", x.output(0), 6);
-        }
-        x.content(1, 2);
-        x.content(2, 3);
-        Due.due("build of the first order", x.build(0), 0);
-        Due.due("status of the first order", x.status(0), FROM_STORE);
-    }
-
-    private static void theStoreIsEachTasksOwn() {
-        BuildGraph x = new BuildGraph();
-        Due.taskOf(x, 0, 1, 0);
-        Due.taskOf(x, 0, 1, 0);
-        Due.due("build(0)", x.build(0), 1);
-        Due.due("build(1), with the record of task 0", x.build(1), 1);
-    }
-
-    private static void upToDateIsNotKeptInTheStore() {
-        BuildGraph x = new BuildGraph();
-        x.task(0, 1);
-        x.build(0);
-        x.emptyStore();
-        Due.due("build after emptyStore", x.build(0), 0);
-        Due.due("status after emptyStore", x.status(0), UP_TO_DATE);
-        x.clean(0);
-        Due.due("build after clean", x.build(0), 1);
-        x.clean(0);
-        Due.due("build after clean, once executed", x.build(0), 0);
-        Due.due("its status", x.status(0), FROM_STORE);
-    }
-
-    private static void theStoreKeepsEveryRecord() {
+    private static void firstAndLast() {
         BuildGraph x = new BuildGraph();
         for (int number = 0; number < 12; number++) {
-            Due.taskOf(x, 1, number, 0, 1, 7);
+            x.task(0, 100 + number);
         }
-        for (int content = 1; content <= 40; content++) {
-            x.content(7, content);
-            Due.due("build(11) of content " + content, x.build(11), 1);
+        Due.build(x, 11, 1);
+        Due.build(x, 0, 1);
+        Due.outputs(x, 100, 0, 0, 0, 0, 0, 0, 0, 0, 0, 0, 111);
+    }
+
+    /** So many builds of task 1, which needs task 0; task 2 is never built. */
+    private static BuildGraph built(int builds) {
+        BuildGraph x = new BuildGraph();
+        Due.taskOf(x, 0, 0, 0);
+        Due.taskOf(x, 0, 1, 8);
+        x.task(0, 2);
+        for (int content = 1; content <= builds; content++) {
+            x.content(0, content);
+            Due.build(x, 1, 2);
         }
-        // Without a last record, only the store can spare the work.
-        x.clean(11);
-        for (int content = 1; content <= 40; content++) {
-            x.content(7, content);
-            Due.due("work(11) of content " + content, x.work(11), 0);
-            Due.due("work(10) of content " + content, x.work(10), 1);
-        }
-        x.content(7, 41);
-        Due.due("work(11) of a new content", x.work(11), 1);
+        return x;
     }
 
     private static void fortyBuilds() {
-        BuildGraph x = new BuildGraph();
-        Due.taskOf(x, 0, 0, 0);
-        Due.taskOf(x, 0, 0, 8);
-        for (int content = 1; content <= 40; content++) {
-            x.content(0, content);
-            Due.due("build " + content, x.build(1), 2);
-        }
+        BuildGraph x = built(39);
+        x.content(0, 40);
+        Due.build(x, 1, 2);
         x.content(0, 41);
-        Due.due("build 41", x.build(1), BuildGraph.FULL);
-        Due.due("build 41 of another task", x.build(0), BuildGraph.FULL);
-        Due.due("executed after FULL", x.executed(), 80);
-        Due.due("stale after FULL", x.stale(), 2);
-        x.emptyStore();
-        Due.due("build after emptyStore", x.build(1), 2);
-        for (int build = 2; build <= 40; build++) {
-            Due.due("a build with nothing to do", x.build(1), 0);
+        for (int again = 0; again < 3; again++) {
+            Due.build(x, 1, BuildGraph.FULL);
         }
-        Due.due("build 41 after emptyStore", x.build(1), BuildGraph.FULL);
+        Due.due("executed()", x.executed(), 80);
     }
 
-    private static void wrongTasks() {
-        BuildGraph x = new BuildGraph();
-        x.task(0, 3);
-        x.build(0);
-        for (int task : Due.outside(1)) {
-            for (int i = 0; i < 8; i++) {
-                Due.due("build(" + task + ")", x.build(task), BuildGraph.BAD_TASK);
-            }
+    private static void fullForEveryTask() {
+        BuildGraph x = built(40);
+        Due.build(x, 2, BuildGraph.FULL);
+        Due.build(x, 0, BuildGraph.FULL);
+        x.task(0, 0);
+        Due.build(x, 3, BuildGraph.FULL);
+    }
+
+    private static void fullChangesNothing() {
+        for (int task = 0; task < 12; task++) {
+            int t = task;
+            Twins.changesNothing(Twins.ALL_TAKEN, "build(" + t + ")", x -> x.build(t),
+                BuildGraph.FULL);
         }
-        Due.due("status after wrong builds", x.status(0), EXECUTED);
-        Due.due("executed after wrong builds", x.executed(), 1);
-        // 48 wrong builds are no builds: forty may still be made.
-        Due.due("build after wrong builds", x.build(0), 0);
+        // With another content, so that a build would execute, keep and remember.
+        Twins.State changed = new Twins.State("all taken and a new content", 12, x -> {
+            Twins.ALL_TAKEN.calls().accept(x);
+            x.content(0, 41);
+            x.clean(5);
+        });
+        for (int task = 0; task < 12; task++) {
+            int t = task;
+            Twins.changesNothing(changed, "build(" + t + ")", x -> x.build(t), BuildGraph.FULL);
+        }
+    }
+
+    private static void idleBuildsCount() {
+        BuildGraph x = new BuildGraph();
+        x.task(0, 5);
+        Due.build(x, 0, 1);
+        for (int build = 2; build <= 40; build++) {
+            Due.build(x, 0, 0);
+        }
+        Due.build(x, 0, BuildGraph.FULL);
+    }
+
+    private static void wrongBuildsDoNotCount() {
+        BuildGraph x = built(39);
+        for (int again = 0; again < 3; again++) {
+            Due.build(x, -1, BuildGraph.BAD_TASK);
+            Due.build(x, 3, BuildGraph.BAD_TASK);
+        }
+        Due.build(x, 2, 1);
+        Due.build(x, 2, BuildGraph.FULL);
+    }
+
+    private static void workDoesNotCount() {
+        BuildGraph x = built(39);
+        for (int again = 0; again < 3; again++) {
+            Due.due("work(2)", x.work(2), 1);
+        }
+        Due.build(x, 2, 1);
+    }
+
+    private static void emptiedWhenFull() {
+        BuildGraph x = built(40);
+        Due.build(x, 2, BuildGraph.FULL);
+        Due.build(x, 2, BuildGraph.FULL);
+        x.emptyStore();
+        // The refused builds were not made: forty may be made again, not fewer.
+        for (int build = 1; build <= 40; build++) {
+            Due.build(x, 2, build == 1 ? 1 : 0);
+        }
+        Due.build(x, 2, BuildGraph.FULL);
+    }
+
+    private static void emptiedBefore() {
+        BuildGraph x = built(39);
+        x.emptyStore();
+        for (int build = 1; build <= 40; build++) {
+            Due.build(x, 2, build == 1 ? 1 : 0);
+        }
+        Due.build(x, 2, BuildGraph.FULL);
+    }
+
+    private static void cleanIsNoEmptying() {
+        BuildGraph x = built(40);
+        x.clean(0);
+        x.clean(1);
+        Due.build(x, 1, BuildGraph.FULL);
+    }
+
+    private static void answersNoneToTwelve() {
+        for (int number = 0; number < 12; number++) {
+            BuildGraph x = Due.chainOfTwelve();
+            Due.build(x, number, number + 1);
+            Due.build(x, number, 0);
+            Due.build(x, 11, 11 - number);
+        }
+    }
+
+    private static void countsExecutedAlone() {
+        BuildGraph x = new BuildGraph();
+        Due.taskOf(x, 0, 0, 0);
+        Due.taskOf(x, 0, 0, 1);
+        Due.taskOf(x, 0, 0, 2);
+        Due.taskOf(x, 0, 0, 8, 9, 10);
+        Due.build(x, 3, 4);
+        x.content(2, 9);
+        x.clean(1);
+        Due.build(x, 3, 2);
+        Due.statuses(x, BuildGraph.UP_TO_DATE, BuildGraph.FROM_STORE, BuildGraph.EXECUTED,
+            BuildGraph.EXECUTED);
     }
 }

@@ -1,10 +1,19 @@
-/** Promise 13: work tells how many tasks a build, now, would execute. */
+/** Promise 13: work. */
 public final class Promise13WorkTest {
+    private static final String SENTENCE =
+        "How many tasks a build of this one, now, would execute; BAD_TASK.";
+
     public static void main(String[] args) {
-        isWhatTheBuildThenAnswers();
-        countsTheNeededTasksAlone();
-        changesNothing();
-        wrongTasks();
+        Due.says(SENTENCE, "what build then answers", Promise13WorkTest::isWhatTheBuildThenAnswers);
+        Due.says(SENTENCE, "none to twelve", Promise13WorkTest::noneToTwelve);
+        Due.says(SENTENCE, "the needed tasks alone", Promise13WorkTest::countsTheNeededTasksAlone);
+        Due.says(SENTENCE, "made no build", Promise13WorkTest::makesNoBuild);
+        Due.says(SENTENCE, "too small", () -> Twins.tooSmall("work", BuildGraph::work,
+            BuildGraph.BAD_TASK));
+        Due.says(SENTENCE, "too large", () -> Twins.tooLargeTask("work", BuildGraph::work,
+            BuildGraph.BAD_TASK));
+        Due.says(SENTENCE, "none yet", () -> Twins.noTaskYet("work", BuildGraph::work,
+            BuildGraph.BAD_TASK));
         Due.end();
     }
 
@@ -32,7 +41,19 @@ public final class Promise13WorkTest {
 
     private static void both(BuildGraph x, int task, int executed) {
         Due.due("work(" + task + ")", x.work(task), executed);
-        Due.due("build(" + task + ")", x.build(task), executed);
+        Due.build(x, task, executed);
+    }
+
+    private static void noneToTwelve() {
+        BuildGraph x = Due.chainOfTwelve();
+        for (int number = 0; number < 12; number++) {
+            Due.due("work(" + number + ")", x.work(number), number + 1);
+        }
+        for (int number = 0; number < 12; number++) {
+            x.build(number);
+            Due.due("work(" + number + ") after its build", x.work(number), 0);
+            Due.due("work(11) after build(" + number + ")", x.work(11), 11 - number);
+        }
     }
 
     private static void countsTheNeededTasksAlone() {
@@ -40,31 +61,19 @@ public final class Promise13WorkTest {
         x.task(0, 0);
         x.task(0, 0);
         Due.taskOf(x, 0, 0, 9);
+        x.task(0, 0);
         Due.due("work(0)", x.work(0), 1);
         Due.due("work(2)", x.work(2), 2);
     }
 
-    private static void changesNothing() {
+    private static void makesNoBuild() {
         BuildGraph x = new BuildGraph();
         x.task(0, 9);
-        Due.due("work(0)", x.work(0), 1);
-        Due.due("work(0) again", x.work(0), 1);
-        Due.due("executed after work", x.executed(), 0);
-        Due.due("status after work", x.status(0), BuildGraph.NOT_NEEDED);
-        Due.due("output after work", x.output(0), 0);
-        Due.due("stale after work", x.stale(), 1);
-        Due.due("clean after work", x.clean(0), 0);
         for (int i = 0; i < 45; i++) {
-            x.work(0);
+            Due.due("work(0)", x.work(0), 1);
         }
-        Due.due("build after work", x.build(0), 1);
-    }
-
-    private static void wrongTasks() {
-        BuildGraph x = new BuildGraph();
-        x.task(0, 0);
-        for (int task : Due.outside(1)) {
-            Due.due("work(" + task + ")", x.work(task), BuildGraph.BAD_TASK);
-        }
+        Due.due("executed after work", x.executed(), 0);
+        Due.due("clean after work", x.clean(0), 0);
+        Due.build(x, 0, 1);
     }
 }

@@ -1,50 +1,98 @@
-/** Promise 15: stale counts the tasks whose last record is not that of now. */
+/** Promise 15: stale. */
 public final class Promise15StaleTest {
+    private static final String SENTENCE = "How many of the tasks have a last record that is not "
+        + "their record as of now, or have none.";
+
     public static void main(String[] args) {
-        countsTasksWithoutALastRecord();
-        countsTasksWithAnotherRecord();
-        countsByRecordNotByOutput();
-        theStoreDoesNotMatter();
+        Due.says(SENTENCE, "no tasks", Promise15StaleTest::noTasks);
+        Due.says(SENTENCE, "none have one", Promise15StaleTest::noneHaveOne);
+        Due.says(SENTENCE, "twelve to none", Promise15StaleTest::twelveToNone);
+        Due.says(SENTENCE, "a record of zeros", Promise15StaleTest::aRecordOfZeros);
+        Due.says(SENTENCE, "after clean", Promise15StaleTest::afterClean);
+        Due.says(SENTENCE, "another record", Promise15StaleTest::anotherRecord);
+        Due.says(SENTENCE, "one input of value 0 more", Promise15StaleTest::anInputMore);
+        Due.says(SENTENCE, "the same output", Promise15StaleTest::byRecordNotByOutput);
+        Due.says(SENTENCE, "the store", Promise15StaleTest::theStoreDoesNotMatter);
         Due.end();
     }
 
-    private static void countsTasksWithoutALastRecord() {
-        BuildGraph x = new BuildGraph();
-        Due.due("stale without tasks", x.stale(), 0);
-        for (int number = 0; number < 12; number++) {
-            x.task(0, 0);
-            Due.due("stale", x.stale(), number + 1);
-        }
-        for (int number = 0; number < 12; number++) {
-            x.build(number);
-            Due.due("stale", x.stale(), 11 - number);
-        }
-        x.clean(5);
-        Due.due("stale after clean", x.stale(), 1);
+    private static void stale(String when, BuildGraph x, int want) {
+        Due.due("stale() " + when, x.stale(), want);
     }
 
-    private static void countsTasksWithAnotherRecord() {
+    private static void noTasks() {
+        BuildGraph x = new BuildGraph();
+        stale("without tasks", x, 0);
+        x.build(0);
+        stale("after a refused build", x, 0);
+    }
+
+    private static void noneHaveOne() {
+        BuildGraph x = new BuildGraph();
+        for (int number = 0; number < 12; number++) {
+            x.task(0, 0);
+            stale("without builds", x, number + 1);
+        }
+    }
+
+    private static void twelveToNone() {
+        BuildGraph x = Due.chainOfTwelve();
+        for (int number = 0; number < 12; number++) {
+            x.build(number);
+            stale("after build(" + number + ")", x, 11 - number);
+        }
+        x.content(0, 5);
+        stale("after content", x, 12);
+    }
+
+    private static void aRecordOfZeros() {
+        BuildGraph x = new BuildGraph();
+        x.task(0, 0);
+        stale("before a build", x, 1);
+        x.build(0);
+        stale("after a build", x, 0);
+        x.clean(0);
+        stale("after clean", x, 1);
+    }
+
+    private static void afterClean() {
+        BuildGraph x = Due.chainOfTwelve();
+        x.build(11);
+        x.clean(0);
+        x.clean(5);
+        x.clean(11);
+        stale("after three cleans", x, 3);
+    }
+
+    private static void anotherRecord() {
         BuildGraph x = new BuildGraph();
         Due.taskOf(x, 0, 0, 0);
         Due.taskOf(x, 0, 0, 1);
         Due.taskOf(x, 0, 0, 8, 9);
         x.build(2);
-        Due.due("stale after a build", x.stale(), 0);
+        stale("after a build", x, 0);
         x.content(2, 1);
-        Due.due("stale after an unused source", x.stale(), 0);
+        stale("after an unused source", x, 0);
         x.content(1, 1);
-        Due.due("stale after a source", x.stale(), 2);
+        stale("after a source", x, 2);
         x.constant(2, 1);
-        Due.due("stale after a constant", x.stale(), 2);
-        x.input(0, 7);
-        Due.due("stale after an input of value 0", x.stale(), 3);
-        x.build(0);
-        Due.due("stale after build(0)", x.stale(), 2);
+        stale("after a constant", x, 2);
         x.build(2);
-        Due.due("stale after build(2)", x.stale(), 0);
+        stale("after build(2)", x, 0);
     }
 
-    private static void countsByRecordNotByOutput() {
+    private static void anInputMore() {
+        BuildGraph x = new BuildGraph();
+        x.task(0, 0);
+        for (int count = 1; count <= 3; count++) {
+            x.build(0);
+            stale("after a build", x, 0);
+            x.input(0, count);
+            stale("with " + count + " inputs", x, 1);
+        }
+    }
+
+    private static void byRecordNotByOutput() {
         BuildGraph x = new BuildGraph();
         x.content(0, 1);
         Due.taskOf(x, 0, 0, 0, 1);
@@ -52,7 +100,7 @@ public final class Promise15StaleTest {
         x.build(1);
         x.content(0, 0);
         x.content(1, 1);
-        Due.due("stale with the same output", x.stale(), 1);
+        stale("with the same output", x, 1);
     }
 
     private static void theStoreDoesNotMatter() {
@@ -62,10 +110,9 @@ public final class Promise15StaleTest {
         x.content(0, 1);
         x.build(0);
         x.content(0, 0);
-        Due.due("stale with the record in the store", x.stale(), 1);
+        stale("with the record in the store", x, 1);
         x.content(0, 1);
         x.emptyStore();
-        Due.due("stale with an empty store", x.stale(), 0);
-        Due.due("stale again", x.stale(), 0);
+        stale("with an empty store", x, 0);
     }
 }
