@@ -20,7 +20,7 @@ public final class LooksChangeNothingTest {
         for (Twins.State state : Twins.STATES) {
             for (int t = 0; t < Math.max(1, state.tasks()); t++) {
                 int answer = look.applyAsInt(state.make(), t);
-                Twins.wrongNumbers(state, name, new int[] {t}, look, answer);
+                Twins.ofEach(state, name, new int[] {t}, look, answer);
             }
         }
         changedContent(name, look);
@@ -34,7 +34,7 @@ public final class LooksChangeNothingTest {
         });
         for (int t = 0; t < changed.tasks(); t++) {
             int answer = look.applyAsInt(changed.make(), t);
-            Twins.wrongNumbers(changed, name, new int[] {t}, look, answer);
+            Twins.ofEach(changed, name, new int[] {t}, look, answer);
         }
     }
 }

@@ -43,7 +43,7 @@ public final class Promise02ContentTest {
 
     private static void tooLarge() {
         for (Twins.State state : Twins.STATES) {
-            Twins.wrongNumbers(state, "content", Due.tooLarge(8),
+            Twins.ofEach(state, "content", Due.tooLarge(8),
                 (x, source) -> x.content(source, 5), BuildGraph.BAD_SOURCE);
         }
     }

@@ -118,7 +118,7 @@ public final class Promise04InputTest {
     }
 
     private static void refused(int task, int... inputs) {
-        Twins.wrongNumbers(Twins.SOME_TASKS, "input of task " + task, inputs,
+        Twins.ofEach(Twins.SOME_TASKS, "input of task " + task, inputs,
             (x, input) -> x.input(task, input), BuildGraph.BAD_SOURCE);
     }
 

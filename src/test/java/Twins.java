@@ -19,9 +19,14 @@ final class Twins {
         }
     }
 
-    /** Calls and what they answered, a line each. */
+    /** Calls and what they answered, a line each, of an object with so many tasks. */
     static final class Answers {
+        final int tasks;
         final List<String> lines = new ArrayList<>();
+
+        Answers(int tasks) {
+            this.tasks = tasks;
+        }
 
         void add(String call, int answer) {
             lines.add(call + " answered " + answer);
@@ -45,42 +50,39 @@ final class Twins {
     static void changesNothing(State state, String name, ToIntFunction<BuildGraph> call, int want) {
         for (BiConsumer<BuildGraph, Answers> probe : PROBES) {
             BuildGraph touched = state.make();
-            BuildGraph left = state.make();
             Due.due(name + " on " + state.name(), call.applyAsInt(touched), want);
-            compare(name + " on " + state.name(), answers(probe, touched), answers(probe, left));
+            Answers got = new Answers(state.tasks());
+            probe.accept(touched, got);
+            Answers due = new Answers(state.tasks());
+            probe.accept(state.make(), due);
+            compare(name + " on " + state.name(), got.lines, due.lines);
         }
     }
 
     /** A call with a source or a task's number as its argument, on every state, with numbers below 0. */
     static void tooSmall(String name, ToIntBiFunction<BuildGraph, Integer> call, int want) {
         for (State state : STATES) {
-            wrongNumbers(state, name, Due.tooSmall(), call, want);
+            ofEach(state, name, Due.tooSmall(), call, want);
         }
     }
 
     /** A call on a task that is not there, on states with tasks: the first is one past the last. */
     static void tooLargeTask(String name, ToIntBiFunction<BuildGraph, Integer> call, int want) {
-        wrongNumbers(SOME_TASKS, name, Due.tooLarge(SOME_TASKS.tasks()), call, want);
-        wrongNumbers(ALL_TAKEN, name, Due.tooLarge(ALL_TAKEN.tasks()), call, want);
+        ofEach(SOME_TASKS, name, Due.tooLarge(SOME_TASKS.tasks()), call, want);
+        ofEach(ALL_TAKEN, name, Due.tooLarge(ALL_TAKEN.tasks()), call, want);
     }
 
     /** A call on a task where there is none yet. */
     static void noTaskYet(String name, ToIntBiFunction<BuildGraph, Integer> call, int want) {
-        wrongNumbers(NEW_OBJECT, name, new int[] {0, 1, 11}, call, want);
-        wrongNumbers(NEW_OBJECT, name, Due.tooLarge(12), call, want);
+        ofEach(NEW_OBJECT, name, new int[] {0, 1, 11}, call, want);
+        ofEach(NEW_OBJECT, name, Due.tooLarge(12), call, want);
     }
 
-    static void wrongNumbers(State state, String name, int[] numbers,
+    static void ofEach(State state, String name, int[] numbers,
             ToIntBiFunction<BuildGraph, Integer> call, int want) {
         for (int number : numbers) {
             changesNothing(state, name + " of " + number, x -> call.applyAsInt(x, number), want);
         }
-    }
-
-    private static List<String> answers(BiConsumer<BuildGraph, Answers> probe, BuildGraph x) {
-        Answers answers = new Answers();
-        probe.accept(x, answers);
-        return answers.lines;
     }
 
     private static void compare(String name, List<String> got, List<String> want) {
@@ -175,7 +177,10 @@ final class Twins {
     }
 
     private static void buildsLeft(BuildGraph x, Answers answers) {
-        answers.add("task(1, 6)", x.task(1, 6));
+        // Not where there are tasks: a refused call here could hide what one did before.
+        if (answers.tasks == 0) {
+            answers.add("task(1, 6)", x.task(1, 6));
+        }
         for (int i = 0; i < 41; i++) {
             answers.add("build(0)", x.build(0));
         }
