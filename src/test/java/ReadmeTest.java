@@ -14,7 +14,7 @@ import java.util.regex.Matcher;
 import java.util.regex.Pattern;
 import javax.tools.ToolProvider;
 
-/** README.md: its examples answer what stands behind them, and its tables name the whole face. */
+/** README.md: its examples answer what stands behind them, and its tables name every call and constant. */
 public final class ReadmeTest {
     private static final Path README = Path.of("README.md");
     private static final String EXAMPLES = "ReadmeExamples";
